@@ -1,6 +1,5 @@
 /** What each kind does as it hears a message, and what that adds to the trace (the terms, 20). */
 public final class KindsTest {
-    private static final int BAD_REASON = 0;
     private static final int CUT = 1, POOR = 2, REFUSED = 3, SHUT = 4, NO_ROOM = 5;
     private static final Check check = new Check("KindsTest");
 
@@ -48,7 +47,7 @@ public final class KindsTest {
     }
 
     private static int[] held() {
-        return new int[] {PromiseWire.OPEN, BAD_REASON};
+        return new int[] {PromiseWire.OPEN, 0};
     }
 
     private static void cell() {
@@ -142,6 +141,8 @@ public final class KindsTest {
             check.due("made: house", x.about(kind + 1, 0), 3);
             check.due("made: kind", x.about(kind + 1, 1), kind);
             check.due("made: number", x.about(kind + 1, 2), 0);
+            check.due("made: guards", x.about(kind + 1, 3), PromiseWire.NONE);
+            check.due("made: acts", x.about(kind + 1, 4), 0);
         }
         heard(x, 0, act(0, 0), number(10), 100);
         int[] refused = {1, 2, 3, 6};

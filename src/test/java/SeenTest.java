@@ -4,6 +4,7 @@ public final class SeenTest {
 
     public static void main(String[] args) {
         purses();
+        pursesOfOneHouse();
         count();
         trace();
         check.end();
@@ -24,6 +25,20 @@ public final class SeenTest {
         x.deliver(0, 1);
         check.due("it goes round", x.purses(),
             (long) Integer.MAX_VALUE - 7 + (Integer.MAX_VALUE + 10));
+    }
+
+    private static void pursesOfOneHouse() {
+        for (int house = 0; house < 4; house++) {
+            PromiseWire x = new PromiseWire();
+            x.thing(house, 1, 9);
+            x.thing(house, 1, 1);
+            x.ask(house, 0, 0, 4, 6, 1);
+            x.deliver(house, house);
+            check.due("taken", x.about(0, 2), 3);
+            check.due("under way in house " + house, x.purses(), 10);
+            x.deliver(house, house);
+            check.due("arrived in house " + house, x.purses(), 10);
+        }
     }
 
     private static void count() {

@@ -12,6 +12,8 @@ public final class WiresTest {
         cutAnswerToAsker();
         cutAnswerToHome();
         cutMove();
+        cutMoveTwice();
+        answerLostAtOnce();
         cutLowerFirst();
         cutOneByOne();
         cutAtOnce();
@@ -167,6 +169,47 @@ public final class WiresTest {
         check.due("p", x.state(p, 0, 1), CUT);
         check.due("q", x.state(q, 0, 1), CUT);
         check.due("purses", x.purses(), 10);
+    }
+
+    /** What MOVE took comes back once, even if the answer that tells so is lost, too. */
+    private static void cutMoveTwice() {
+        PromiseWire x = new PromiseWire();
+        x.thing(0, 1, 10);
+        x.thing(1, 1, 0);
+        x.guard(2, 0, 255, false);
+        int p = x.ask(2, 0, 2, 4, 4, 1);
+        x.deliver(2, 2);
+        x.deliver(2, 0);
+        check.due("taken", x.about(0, 2), 6);
+        check.due("lost", x.cut(0, 1), 1);
+        check.due("come back", x.about(0, 2), 10);
+        check.due("the answer to HOME", x.letter(0, 2, 0, 0), 1);
+        check.due("purses", x.purses(), 10);
+        check.due("lost, too", x.cut(0, 2), 1);
+        check.due("come back once", x.about(0, 2), 10);
+        check.due("broken", x.state(p, 2, 1), CUT);
+    }
+
+    private static void answerLostAtOnce() {
+        PromiseWire x = new PromiseWire();
+        x.thing(1, 6, 1);
+        x.thing(0, 0, 0);
+        x.guard(2, 0, 255, false);
+        int direct = x.ask(0, 0, 0, 6, 0, 0);
+        int guarded = x.ask(0, 0, 2, 6, 0, 0);
+        x.when(0, direct, 1);
+        x.flow(100);
+        x.cut(0, 1);
+        x.cut(1, 2);
+        check.due("wake", x.wake(0, 6), 2);
+        check.due("home: a number", x.state(direct, 1, 1), 6);
+        check.due("asker: broken", x.state(direct, 0, 0), PromiseWire.BROKEN);
+        check.due("asker: CUT", x.state(direct, 0, 1), CUT);
+        check.due("WHEN of asker", x.letter(0, 0, 0, 3), -1);
+        check.due("letters", x.promise(direct, 3), 2);
+        check.due("home of the guarded", x.state(guarded, 2, 0), PromiseWire.BROKEN);
+        check.due("home of the guarded", x.state(guarded, 2, 1), CUT);
+        check.due("its answer goes on", x.letter(2, 0, 0, 3), CUT);
     }
 
     /** Letters from house 0 are lost before those from house 1, however the wire is named. */
