@@ -32,6 +32,7 @@ public final class WireEdgesTest {
         cutWhen();
         lostAtOnce();
         lostAtOnceAnswers();
+        lostAtOnceToHome();
         againRefused();
         againBothWays();
         wireRefused();
@@ -321,20 +322,23 @@ public final class WireEdgesTest {
         lowerFirstByOneWire(2, 3, 0);
     }
 
-    /** A message from the lower house and an answer to it end in one line: the message is first. */
+    /** Messages from the lower house and answers to it end in one line: all the messages are first. */
     private static void lowerFirstByOneWire(int low, int high, int asker) {
         for (int turned = 0; turned < 2; turned++) {
             PromiseWire x = new PromiseWire();
             x.thing(high, 0, 3);
             x.guard(low, 0, 255, false);
-            int answered = x.ask(asker, 0, 1, 0, 0, 0);
-            x.deliver(asker, low);
+            for (int i = 0; i < 4; i++) {
+                x.ask(asker, 0, 1, 0, 0, 0);
+                x.deliver(asker, low);
+            }
             x.deliver(low, high);
-            int asked = x.ask(asker, 0, 1, 0, 0, 0);
-            x.deliver(asker, low);
-            check.due("lost", turned == 0 ? x.cut(low, high) : x.cut(high, low), 2);
-            check.due("from the lower", x.letter(low, asker, 0, 1), asked);
-            check.due("from the higher", x.letter(low, asker, 1, 1), answered);
+            x.deliver(low, high);
+            check.due("lost", turned == 0 ? x.cut(low, high) : x.cut(high, low), 4);
+            int[] order = {2, 3, 0, 1};
+            for (int i = 0; i < 4; i++) {
+                check.due("those from the lower first", x.letter(low, asker, i, 1), order[i]);
+            }
         }
     }
 
@@ -580,6 +584,29 @@ public final class WireEdgesTest {
         x.flow(100);
         check.due("its asker is told", x.state(guarded, 0, 1), Talk.CUT);
         check.due("both are", x.state(waiter, 0, 1), Talk.CUT);
+    }
+
+    /** An answer that HOME can't be told is as BROKEN by CUT there, and goes on to ASKER so. */
+    private static void lostAtOnceToHome() {
+        PromiseWire x = new PromiseWire();
+        x.thing(1, 5, 2);
+        x.guard(2, 0, 255, false);
+        int guarded = x.ask(0, 0, 1, 6, 2, 0);
+        int waiter = x.ask(0, 1, guarded, 0, 0, 0);
+        x.flow(3);
+        check.due("held", x.promise(guarded, 4), 1);
+        check.due("waits", x.promise(guarded, 2), 1);
+        check.due("none is lost", x.cut(2, 1), 0);
+        int direct = x.ask(0, 0, 0, 6, 1, 0);
+        x.deliver(0, 1);
+        check.due("the joiner's house has the sum", x.state(direct, 1, 1), 3);
+        check.due("home: BROKEN", x.state(guarded, 2, 0), BROKEN);
+        check.due("home: CUT", x.state(guarded, 2, 1), Talk.CUT);
+        check.due("what waited: CUT", x.state(waiter, 2, 1), Talk.CUT);
+        check.due("a letter to the asker", x.letter(2, 0, 0, 1), guarded);
+        check.due("BROKEN", x.letter(2, 0, 0, 2), BROKEN);
+        check.due("by CUT", x.letter(2, 0, 0, 3), Talk.CUT);
+        check.due("asked, sent on, to HOME, to ASKER", x.promise(guarded, 3), 4);
     }
 
     // ---- 15: again
