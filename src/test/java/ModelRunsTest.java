@@ -6,7 +6,7 @@ import java.util.Random;
 
 /** Drawn calls (the same in each run of the test), each answered as the model of the document does. */
 public final class ModelRunsTest {
-    private static final int RUNS = 1500, CALLS = 512;
+    private static final int RUNS = 3000, CALLS = 512;
     private static final String[] CHANGES = {"thing", "guard", "shut", "back", "wake", "ask", "ask",
         "ask", "ask", "ask", "ask", "when", "deliver", "deliver", "deliver", "deliver", "flow",
         "cut", "again"};
@@ -169,8 +169,11 @@ public final class ModelRunsTest {
             return new Object[] {house(), isIn(oddIn) ? 2 : 0, hearer(act), act, n, other};
         }
 
-        /** Mostly a thing that does not refuse the act, where few kinds do not. */
+        /** Mostly a guard, or a thing that does not refuse the act, where few kinds do not. */
         private int hearer(int act) {
+            if (isIn(3)) {
+                return thing(1, isIn(2) ? 3 : 4);
+            }
             switch (act) {
                 case 4: return thing(1, 1);
                 case 5: return thing(1, 2);
